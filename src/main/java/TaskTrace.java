@@ -24,6 +24,9 @@ public final class TaskTrace {
     private static final int SORT_BYTE = 1, SORT_SHORT = 2, SORT_INT = 3, SORT_LONG = 4, SORT_COPY = 5;
     private static final int MARK_WIDTH = 5, MARK_NUMBERS = 4;
     private static final int FINE = 0;
+    /** Behind all times: 200 stretches of 16 bits, and as much again for what is left to run. */
+    private static final int FAR = 1 << 30;
+    private static final long UNBOUND = -(1L << 60);
 
     private final Trace trace = new Trace();
     private final int[] toldRanks = new int[MAX_TASKS];
@@ -1029,7 +1032,7 @@ public final class TaskTrace {
             Lane lane = laneOf(processor);
             int number = lane.size;
             int before = lane.timeOf(number - 1);
-            // a time's low bits are its clock, so the masked difference is the way round to the new clock
+            // a time's low bits are its clock, so the masked difference leads round to the clock told
             int time = number == 0 ? clock : before + ((clock - before) & clockMask());
             lane.add(kind, task, x, time);
             int place = letterPlace(kind, x);
@@ -1259,7 +1262,7 @@ public final class TaskTrace {
             for (int i = 0; i < lane.size; i++) {
                 walk.step(lane, i);
                 if (i + 1 == lane.size) {
-                    runJobs(i, lane.timeOf(i), Integer.MAX_VALUE, ranks);
+                    runJobs(i, lane.timeOf(i), FAR, ranks);
                 } else if (walk.doing() == HAS_TASK || walk.doing() == DOES_NOTHING) {
                     runJobs(i, lane.timeOf(i), lane.timeOf(i + 1), ranks);
                 }
@@ -1473,7 +1476,6 @@ public final class TaskTrace {
 
     /** What the letters say of the processors' offs. */
     private static final class Offs {
-        private static final long UNBOUND = Long.MIN_VALUE;
         /** At p * MAX_PROCESSORS + q: the least that off(q) less off(p) can be. */
         final long[] least = new long[MAX_PROCESSORS * MAX_PROCESSORS];
 

@@ -47,6 +47,7 @@ public final class PromiseTests {
         tape();
         keep();
         back();
+        backToWantingAndToOne();
         differ();
         toss();
         play();
@@ -975,6 +976,28 @@ public final class PromiseTests {
         counts(x, 5, 0, 2);
         x.clear(2);
         c.due("cleared", x.back(2), -11);
+    }
+
+    // 30
+    private static void backToWantingAndToOne() {
+        TaskTrace x = made(2, 2, 8);
+        tell(x, READY, 0, -1, 0, READY, 1, -1, 0, RUN, 0, -1, 0, LOCK, 0, 2, 0, RUN, 1, -1, 0, WANT, 1, 2, 3);
+        tellOn(x, 1, START, -1, 33, 7);
+        x.keep(0);
+        c.due("begin", x.begin(2, 2, 8), 2);
+        tell(x, READY, 1, -1, 0, RUN, 1, -1, 0, LOCK, 1, 0, 0, READY, 0, -1, 0, RUN, 0, -1, 0, WANT, 0, 0, 0);
+        tellOn(x, 1, ANSWER, -1, 44, 9, IN, -1, -1, 9);
+        c.due("back(0)", x.back(0), 7);
+        int[] due = {START, -1, 33, 7};
+        for (int what = 0; what < 4; what++) {
+            c.due("the one mark of processor 1", x.told(1, 0, what), due[what]);
+        }
+        c.due("no more of them", x.told(1, 1, 0), -1);
+        c.due("the lock of the copy", x.told(0, 3, 2), 2);
+        tell(x, RUN, 0, -1, 4, FREE, 0, 2, 5);
+        c.due("not the wanted lock", x.mark(0, LOCK, 1, 0, 6), -3);
+        c.due("the wanted lock", x.mark(0, LOCK, 1, 2, 6), 8);
+        c.due("a letter that the copy hasn't", x.mark(1, ANSWER, -1, 44, 9), 1);
     }
 
     // 31
