@@ -24,6 +24,7 @@ final class EdgesOfLaws {
         edges.apartAndLost();
         edges.idling();
         edges.idlingNot();
+        edges.kindsTogether();
         edges.breaksRefused();
         edges.broken();
         edges.agree();
@@ -475,6 +476,32 @@ final class EdgesOfLaws {
         });
     }
 
+    private void kindsTogether() {
+        c.test(20, "BREAKS are SURE or MAYBE, each with the TIME at which it begins, in order", "each KIND has its own, of one trace that breaks all", () -> {
+            TaskTrace x = c.made(1, 1, 8);
+            int[][] laws = {{0, 0, 0, 3}, {1, 0, 0, 3}, {2, 0, 0, 30}, {3, 0, 0, 0}};
+            for (int i = 0; i < laws.length; i++) {
+                c.due("law", x.law(laws[i][0], laws[i][1], laws[i][2], laws[i][3]), i);
+            }
+            c.tell(x, READY, 0, -1, 1, RUN, 0, -1, 2, LOCK, 0, 0, 3, FREE, 0, 0, 8, LOCK, 0, 0, 9, BLOCK, 0, -1, 10);
+            c.tell(x, READY, 0, -1, 20, RUN, 0, -1, 21, SEND, -1, 0, 22, LOST, -1, -1, 25, READY, 0, -1, 60);
+            judged(x, 0, row(1), row(20));
+            judged(x, 1, row(3, 9), row());
+            judged(x, 2, row(1), row(20));
+            judged(x, 3, row(1, 20), row());
+        });
+        c.test(20, "BREAKS are SURE or MAYBE, each with the TIME at which it begins, in order", "two LAWS asked in turn", () -> {
+            TaskTrace x = c.made(1, 1, 8);
+            c.due("law", x.law(0, 0, 0, 3), 0);
+            c.due("law", x.law(0, 0, 0, 9), 1);
+            c.tell(x, READY, 0, -1, 1, RUN, 0, -1, 2, BLOCK, 0, -1, 6);
+            for (int turn = 0; turn < 2; turn++) {
+                judged(x, 0, row(1), row());
+                judged(x, 1, row(), row());
+            }
+        });
+    }
+
     private void breaksRefused() {
         c.test(20, "NONE: no such LAW, what", "a LAW below 0 or from their number on", () -> {
             TaskTrace x = under(3, 0, 0);
@@ -531,8 +558,8 @@ final class EdgesOfLaws {
             }
         });
         c.test(21, "NONE: there is none", "what below 0 or above 1", () -> {
-            TaskTrace x = under(3, 0, 0);
-            c.tell(x, READY, 0, -1, 3, SEND, -1, 1, 5);
+            TaskTrace x = under(2, 0, 10);
+            c.tell(x, READY, 0, -1, 3, LOST, -1, -1, 4, READY, 0, -1, 5, LOST, -1, -1, 6, READY, 0, -1, 20);
             for (int what : new int[] {-1, MIN, 2, MAX}) {
                 c.due("broken(0, " + what + ", 0)", x.broken(0, what, 0), NONE);
             }
@@ -651,6 +678,15 @@ final class EdgesOfLaws {
             c.tellOn(x, 2, RECEIVE, -1, 1, 5, RECEIVE, -1, 2, 7);
             c.due("straight", x.gap(0, 2, 0), 5);
         });
+        c.test(23, "what 0 its least, 1 its greatest value", "through each processor between each two others", () -> {
+            for (int p = 0; p < 3; p++) {
+                for (int q = 0; q < 3; q++) {
+                    if (p != q) {
+                        gapThrough(p, 3 - p - q, q);
+                    }
+                }
+            }
+        });
         c.test(23, "the GAP OFF(q) - OFF(p)", "of a processor with itself it is 0, also without marks", () -> {
             TaskTrace x = c.made(3, 1, 8);
             for (int p = 0; p < 3; p++) {
@@ -668,6 +704,20 @@ final class EdgesOfLaws {
             c.due("least", x.gap(0, 1, 0), 199 * 65535);
             c.due("greatest back", x.gap(1, 0, 1), -199 * 65535);
         });
+    }
+
+    /** A letter of 7 at least from p to the third, and one of -2 at least from there to q, make 5 at least. */
+    private void gapThrough(int p, int third, int q) {
+        TaskTrace x = c.made(3, 1, 8);
+        c.tellOn(x, p, SEND, -1, 0, 50);
+        c.tellOn(x, third, RECEIVE, -1, 0, 43, SEND, -1, 1, 60);
+        c.tellOn(x, q, RECEIVE, -1, 1, 62);
+        c.due("least from " + p + " to " + q, x.gap(p, q, 0), 5);
+        c.due("greatest from " + q + " to " + p, x.gap(q, p, 1), -5);
+        c.state("no greatest from " + p + " to " + q, () -> x.gap(p, q, 1));
+        c.state("no least from " + q + " to " + p, () -> x.gap(q, p, 0));
+        c.state("no least from " + third + " to " + p, () -> x.gap(third, p, 0));
+        c.state("no least from " + q + " to " + third, () -> x.gap(q, third, 0));
     }
 
     private void gapRefused() {
@@ -705,6 +755,21 @@ final class EdgesOfLaws {
             c.tellOn(x, 2, RECEIVE, -1, 1, 10);
             c.state("least", () -> x.gap(1, 2, 0));
             c.state("greatest", () -> x.gap(1, 2, 1));
+        });
+        c.test(23, "or there is no such value", "a third processor without letters has none with the other two", () -> {
+            TaskTrace x = c.made(3, 1, 8);
+            c.tell(x, SEND, -1, 0, 100, RECEIVE, -1, 1, 110);
+            c.tellOn(x, 1, RECEIVE, -1, 0, 40, SEND, -1, 1, 45);
+            c.due("least", x.gap(0, 1, 0), 60);
+            c.due("greatest", x.gap(0, 1, 1), 65);
+            for (int p = 0; p < 2; p++) {
+                for (int what = 0; what < 2; what++) {
+                    int with = p;
+                    int asked = what;
+                    c.state("to it", () -> x.gap(with, 2, asked));
+                    c.state("from it", () -> x.gap(2, with, asked));
+                }
+            }
         });
         c.test(23, "IllegalStateException: the OFFS don't AGREE", "also for processors that the quarrel isn't between", () -> {
             TaskTrace x = c.made(3, 1, 8);

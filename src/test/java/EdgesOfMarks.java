@@ -68,6 +68,28 @@ final class EdgesOfMarks {
             c.due("the host's refusals", x.count(6), 0);
             c.due("marks of processor 0", x.count(10), 0);
         });
+        c.test(1, "public static final int NONE = -1, STARTED = -2, BAD = -3, FULL = -4, TWICE = -5, QUARREL = -6, OPEN = -7", "the refusals' numbers", () -> {
+            int[] got = {TaskTrace.NONE, TaskTrace.STARTED, TaskTrace.BAD, TaskTrace.FULL, TaskTrace.TWICE, TaskTrace.QUARREL, TaskTrace.OPEN};
+            for (int i = 0; i < got.length; i++) {
+                c.due("refusal " + i, got[i], -1 - i);
+            }
+        });
+        c.test(1, "public static final int NOTHING = -11, CAST = -12, PLACE = -13, SIZE = -14, THROWN = -15", "the host's refusals' numbers", () -> {
+            int[] got = {TaskTrace.NOTHING, TaskTrace.CAST, TaskTrace.PLACE, TaskTrace.SIZE, TaskTrace.THROWN};
+            for (int i = 0; i < got.length; i++) {
+                c.due("refusal " + i, got[i], -11 - i);
+            }
+        });
+        c.test(1, "An object is used for at most 512 calls after it has been made", "the 512th call answers as the first did", () -> {
+            TaskTrace x = new TaskTrace();
+            for (int i = 0; i < 200; i++) {
+                c.due("mark", x.mark(0, LOST, -1, -1, i), i);
+            }
+            for (int i = 200; i < 511; i++) {
+                c.due("a mark too many", x.mark(0, LOST, -1, -1, 0), FULL);
+            }
+            c.due("the 512th call", x.count(5), 311);
+        });
         c.test(1, "TAPES 0 .. 5 each hold nothing (at first)", "all six of them", () -> {
             TaskTrace x = new TaskTrace();
             for (int d = 0; d < 6; d++) {
@@ -104,6 +126,11 @@ final class EdgesOfMarks {
             TaskTrace x = new TaskTrace();
             c.due("other(0, 15)", x.other(0, 15), 0);
             c.due("other(1, 15)", x.other(1, 15), 0);
+        });
+        c.test(1, "what its RANK is, until it is told", "of a new task whose RANK is told, without begin", () -> {
+            TaskTrace x = new TaskTrace();
+            c.due("rank", x.rank(0, 6), 0);
+            c.due("other", x.other(0, 1), 6);
         });
         c.test(1, "or UNKNOWN (IDLE at first)", "both tasks", () -> {
             TaskTrace x = new TaskTrace();

@@ -20,6 +20,7 @@ final class EdgesOfRuns {
         edges.againRefused();
         edges.slowest();
         edges.periodRange();
+        edges.periodOfOne();
         edges.periodTies();
         edges.periodRefused();
     }
@@ -92,6 +93,15 @@ final class EdgesOfRuns {
             c.tell(x, RUN, 0, -1, 30, BLOCK, 0, -1, 34);
             c.due("ahead of it", x.again(0, 0), 3);
             c.due("behind it", x.again(0, 1), 25);
+        });
+        c.test(25, "also behind the last MARK", "whichever it is: a JOB that was BLOCKED is done by then", () -> {
+            for (int last : new int[] {IN, LOST, SEND}) {
+                TaskTrace x = c.made(1, 2, 8);
+                c.tell(x, READY, 1, -1, 0, RUN, 1, -1, 0, READY, 0, -1, 2, BLOCK, 1, -1, 5, RUN, 0, -1, 5, BLOCK, 0, -1, 9);
+                c.tell(x, last, -1, last == SEND ? 0 : -1, 9);
+                c.due("0", x.again(0, 0), 6);
+                c.due("1", x.again(1, 0), 9);
+            }
         });
         c.test(25, "in all other time", "also while the processor did nothing, or ran another", () -> {
             TaskTrace x = c.made(1, 2, 8);
@@ -316,6 +326,25 @@ final class EdgesOfRuns {
             c.tell(x, READY, 0, -1, 20, RUN, 0, -1, 20, BLOCK, 0, -1, 21);
             c.due("p", x.period(0, 0), 10);
             c.due("jitter", x.period(0, 1), 0);
+        });
+    }
+
+    private void periodOfOne() {
+        c.test(27, "The PERIOD of a TASK's JOBS", "another TASK's JOBS on the same processor don't count", () -> {
+            TaskTrace x = c.made(1, 2, 8);
+            int[] times = {0, 20, 3, 40, 41};
+            int[] tasks = {0, 0, 1, 0, 1};
+            int[] order = {0, 2, 1, 3, 4};
+            for (int k : order) {
+                c.tell(x, READY, tasks[k], -1, times[k], RUN, tasks[k], -1, times[k], BLOCK, tasks[k], -1, times[k]);
+            }
+            c.due("two JOBS of the other", x.period(1, 0), NONE);
+            c.due("p", x.period(0, 0), 20);
+            c.due("jitter", x.period(0, 1), 0);
+            c.tell(x, READY, 1, -1, 81, RUN, 1, -1, 81, BLOCK, 1, -1, 81);
+            // 3, 41, 81: p 39 leaves 3, 2, 3
+            c.due("the other's p", x.period(1, 0), 39);
+            c.due("the other's jitter", x.period(1, 1), 1);
         });
     }
 

@@ -48,6 +48,12 @@ final class EdgesOfTapes {
         c.state("no place behind the row", () -> x.at(d, due.length));
     }
 
+    private void toldIs(TaskTrace x, int processor, int i, int... due) {
+        for (int what = 0; what < due.length; what++) {
+            c.due("told(" + processor + ", " + i + ", " + what + ")", x.told(processor, i, what), due[what]);
+        }
+    }
+
     private TaskTrace withRow(int d, int sort, long... values) {
         TaskTrace x = c.made(2, 2, 8);
         c.due("tape", x.tape(d, sort, values.length), values.length);
@@ -284,14 +290,63 @@ final class EdgesOfTapes {
             c.due("back", x.back(1), 1);
             c.due("home", x.home(0, 1), STARTED);
         });
-        c.test(30, "All becomes as the COPY on TAPE d", "of a full processor it is full again", () -> {
+        c.test(30, "All becomes as the COPY on TAPE d", "of a full processor it is full again, of others' marks it has none", () -> {
             TaskTrace x = c.made(1, 1, 8);
-            c.tellLetters(x, 0, 200, 0);
+            c.tellLetters(x, 0, 200, 7);
             c.due("keep", x.keep(0), 200);
             c.due("begin", x.begin(1, 1, 8), 1);
+            for (int i = 0; i < 150; i++) {
+                c.due("mark", x.mark(0, LOST, -1, -1, 9), i);
+            }
             c.due("back", x.back(0), 200);
             c.refused(x, Desk.FULL, LOST, -1, -1, 0);
-            c.due("the last", x.told(0, 199, 0), ANSWER);
+            toldIs(x, 0, 0, SEND, -1, 0, 7);
+            toldIs(x, 0, 149, SEND + 2, -1, 21, 7);
+            toldIs(x, 0, 199, ANSWER, -1, 7, 7);
+        });
+        c.test(30, "All becomes as the COPY on TAPE d", "of a processor with one MARK, and of one with none", () -> {
+            TaskTrace x = c.made(2, 2, 8);
+            c.due("home", x.home(1, 1), 0);
+            c.tellOn(x, 1, READY, 1, -1, 77);
+            c.due("keep", x.keep(0), 1);
+            c.due("begin", x.begin(2, 2, 8), 2);
+            c.tellOn(x, 1, SEND, -1, 4, 5, SEND, -1, 5, 6);
+            c.tell(x, SEND, -1, 6, 5);
+            c.due("back", x.back(0), 1);
+            toldIs(x, 1, 0, READY, 1, -1, 77);
+            c.due("no more", x.told(1, 1, 0), NONE);
+            c.due("none of 0", x.told(0, 0, 0), NONE);
+        });
+        c.test(30, "All becomes as the COPY on TAPE d", "what a task wants is the COPY's, though it wanted another LOCK since", () -> {
+            TaskTrace x = c.made(1, 2, 8);
+            c.tell(x, READY, 0, -1, 0, RUN, 0, -1, 0, LOCK, 0, 2, 0, READY, 1, -1, 0, RUN, 1, -1, 0, WANT, 1, 2, 0);
+            c.due("keep", x.keep(0), 6);
+            c.due("begin", x.begin(1, 2, 8), 1);
+            c.tell(x, READY, 0, -1, 0, RUN, 0, -1, 0, LOCK, 0, 3, 0, READY, 1, -1, 0, RUN, 1, -1, 0, WANT, 1, 3, 0);
+            c.due("back", x.back(0), 6);
+            c.tell(x, RUN, 0, -1, 0, FREE, 0, 2, 0);
+            c.refused(x, BAD, LOCK, 1, 3, 0);
+            c.tell(x, LOCK, 1, 2, 0);
+        });
+        c.test(30, "All becomes as the COPY on TAPE d", "letters of all four kinds, with the least and the greatest x", () -> {
+            TaskTrace x = c.made(1, 1, 8);
+            for (int kind = SEND; kind <= ANSWER; kind++) {
+                c.tell(x, kind, -1, 0, 0, kind, -1, 63, 1);
+            }
+            c.due("keep", x.keep(0), 8);
+            c.due("begin", x.begin(1, 1, 8), 1);
+            for (int kind = SEND; kind <= ANSWER; kind++) {
+                c.tell(x, kind, -1, 1, 0);
+            }
+            c.due("back", x.back(0), 8);
+            for (int kind = SEND; kind <= ANSWER; kind++) {
+                c.refused(x, TWICE, kind, -1, 0, 0);
+                c.refused(x, TWICE, kind, -1, 63, 0);
+            }
+            c.due("answer", x.answer(63, 0), 256);
+            for (int kind = SEND; kind <= ANSWER; kind++) {
+                c.tell(x, kind, -1, 1, 0);
+            }
         });
     }
 

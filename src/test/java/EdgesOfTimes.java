@@ -1,3 +1,6 @@
+import java.util.function.IntUnaryOperator;
+import java.util.function.ToIntFunction;
+
 /** The boundary cases of promises 10 to 18: how long a task counts as what, who held it up, and its jobs. */
 final class EdgesOfTimes {
     private static final int READY = Desk.READY, RUN = Desk.RUN, BLOCK = Desk.BLOCK, WANT = Desk.WANT, LOCK = Desk.LOCK;
@@ -28,6 +31,7 @@ final class EdgesOfTimes {
         edges.job();
         edges.worst();
         edges.late();
+        edges.askedAgain();
     }
 
     private void sums(TaskTrace x, int task, int... due) {
@@ -328,6 +332,14 @@ final class EdgesOfTimes {
                 c.tell(x, RUN, 2, -1, 0, SEND, -1, 0, 7);
                 heldIs(x, 1, 0, 0, 0, 0, 7, 0, 0);
             }
+        });
+        c.test(13, "3 the CURRENT TASK has a RANK that isn't below t's", "TASK 0 is CURRENT, and one of another number holds the LOCK", () -> {
+            TaskTrace x = c.made(1, 3, 8);
+            c.tell(x, READY, 0, -1, 0, READY, 1, -1, 0, READY, 2, -1, 0, RUN, 2, -1, 0, LOCK, 2, 0, 0, RUN, 1, -1, 0, WANT, 1, 0, 0);
+            c.tell(x, RUN, 0, -1, 0, SEND, -1, 0, 7);
+            heldIs(x, 1, 0, 0, 0, 7, 0, 0, 0);
+            c.due("rank", x.rank(1, 1), 0);
+            heldIs(x, 1, 0, 0, 0, 0, 7, 0, 0);
         });
         c.test(13, "4 the CURRENT TASK has a RANK below t's (INVERSION)", "the holder's RANK is not asked", () -> {
             TaskTrace x = oneIsHeld(15, 4);
@@ -671,6 +683,86 @@ final class EdgesOfTimes {
             for (int task : new int[] {-1, MIN, 3, 8, MAX}) {
                 c.due("late(" + task + ", 0)", x.late(task, 0), NONE);
             }
+        });
+    }
+
+    // ---- asked again
+
+    /** Begins with nothing done and ends IN, with a LOCK held, one task WANTING and one READY. */
+    private TaskTrace endsIn() {
+        TaskTrace x = c.made(1, 3, 8);
+        c.due("law", x.law(3, 0, 0, 0), 0);
+        c.tell(x, SEND, -1, 0, 0, READY, 0, -1, 4, SEND, -1, 1, 5, RUN, 0, -1, 6, BLOCK, 0, -1, 10, READY, 1, -1, 10, RUN, 1, -1, 11);
+        c.tell(x, LOCK, 1, 0, 12, READY, 2, -1, 12, RUN, 2, -1, 14, WANT, 2, 0, 15, IN, -1, -1, 18);
+        c.due("keep", x.keep(0), 12);
+        return x;
+    }
+
+    /** Begins with nothing done and ends with a task that is WANTING since the last MARK. */
+    private TaskTrace endsWanting() {
+        TaskTrace x = c.made(1, 3, 8);
+        c.due("law", x.law(3, 0, 0, 0), 0);
+        c.tell(x, SEND, -1, 0, 0, READY, 1, -1, 4, RUN, 1, -1, 5, LOCK, 1, 0, 6, READY, 2, -1, 9, RUN, 2, -1, 10, WANT, 2, 0, 12);
+        c.due("keep", x.keep(0), 7);
+        return x;
+    }
+
+    /** Ends with all that is there UNKNOWN. */
+    private TaskTrace endsLost() {
+        TaskTrace x = endsIn();
+        c.tell(x, LOST, -1, -1, 40);
+        return x;
+    }
+
+    private void sameAgain(int promise, String sentence, ToIntFunction<TaskTrace> question) {
+        c.test(promise, sentence, "the same when it is asked again, though the trace ends otherwise than it begins", () -> {
+            TaskTrace[] fresh = {endsIn(), endsWanting(), endsLost()};
+            TaskTrace[] asked = {endsIn(), endsWanting(), endsLost()};
+            for (int i = 0; i < fresh.length; i++) {
+                int due = question.applyAsInt(fresh[i]);
+                c.due("asked twice", question.applyAsInt(fresh[i]), due);
+                c.due("jobs", asked[i].jobs(2), 0);
+                c.due("asked behind jobs()", question.applyAsInt(asked[i]), due);
+                c.due("again", asked[i].again(2, 0), NONE);
+                c.due("asked behind again()", question.applyAsInt(asked[i]), due);
+            }
+        });
+    }
+
+    /** All answers of one task or processor for the whats of a question, as one number. */
+    private static int mixed(int whats, IntUnaryOperator answer) {
+        int all = 7;
+        for (int what = 0; what < whats; what++) {
+            all = 31 * all + answer.applyAsInt(what);
+        }
+        return all;
+    }
+
+    private void askedAgain() {
+        sameAgain(10, "How long, of its HOME's trace, a TASK counts as what", x -> mixed(18, k -> x.sum(k / 6, k % 6)));
+        sameAgain(11, "How long a processor: what 0 does nothing", x -> mixed(4, what -> x.busy(0, what)));
+        sameAgain(12, "How long a TASK counts as READY by what", x -> mixed(15, k -> x.wait(k / 5, k % 5)));
+        sameAgain(13, "How long a TASK counts as WANTING by what", x -> mixed(21, k -> x.held(k / 7, k % 7)));
+        sameAgain(14, "The greatest CHAIN of a TASK", x -> mixed(3, x::chain));
+        sameAgain(15, "How many JOBS a TASK has", x -> mixed(3, x::jobs));
+        sameAgain(16, "Of a TASK's i-th JOB", x -> mixed(15, k -> x.job(k / 5, 0, k % 5)));
+        sameAgain(20, "How many BREAKS of a LAW", x -> x.breaks(0, 0));
+        sameAgain(25, "When a TASK's i-th JOB is DONE", x -> mixed(3, t -> x.again(t, 0)));
+        sameAgain(31, "less how long it does in the COPY", x -> mixed(18, k -> x.differ(0, k / 6, k % 6)));
+        c.test(14, "0: there is none", "of one that is WANTING since the last MARK, behind other questions", () -> {
+            TaskTrace x = endsWanting();
+            c.due("jobs", x.jobs(2), 0);
+            c.due("chain", x.chain(2), 0);
+        });
+        c.test(16, "DEMAND: how long t counts as RUNNING in it", "of a trace that ends IN, behind other questions", () -> {
+            TaskTrace x = endsIn();
+            c.due("jobs", x.jobs(0), 1);
+            c.due("demand", x.job(0, 0, 3), 4);
+        });
+        c.test(25, "DONE is the moment its need is filled", "of a trace that ends IN", () -> {
+            TaskTrace x = endsIn();
+            c.due("need 4 from 4 on", x.again(0, 0), 8);
+            c.due("and again", x.again(0, 0), 8);
         });
     }
 }
