@@ -318,6 +318,19 @@ final class EdgesOfRuns {
             times[65]--;
             periodIs(65535, 1, times);
         });
+        c.test(27, "1 .. the last READY's TIME less the first one's (at least 1)", "three JOBS as far apart as 200 marks allow", () -> {
+            for (int early : new int[] {0, 1, 30001}) {
+                TaskTrace x = farApart(early);
+                int second = 96 * 65535 - early;
+                int[] times = {0, second, second + 96 * 65535};
+                for (int k = 0; k < 3; k++) {
+                    c.due("the time of JOB " + k, x.job(0, k, 0), times[k]);
+                }
+                int p = triedPeriod(times);
+                c.due("p", x.period(0, 0), p);
+                c.due("jitter", x.period(0, 1), jitter(times, p));
+            }
+        });
         c.test(27, "(The READYs of JOBS 0, 1, .. in order.)", "a READY that is no JOB's doesn't count", () -> {
             TaskTrace x = c.made(1, 2, 8);
             c.tell(x, READY, 0, -1, 0, RUN, 0, -1, 0, BLOCK, 0, -1, 1, READY, 0, -1, 3, LOST, -1, -1, 4, RUN, 1, -1, 5);
@@ -327,6 +340,21 @@ final class EdgesOfRuns {
             c.due("p", x.period(0, 0), 10);
             c.due("jitter", x.period(0, 1), 0);
         });
+    }
+
+    /** Three JOBS of length 0 with 95 letters between each two, each mark 65535 behind the one ahead, the second JOB a little less. */
+    private TaskTrace farApart(int early) {
+        TaskTrace x = c.made(1, 1, 16);
+        int[] times = {0, 96 * 65535 - early, 192 * 65535 - early};
+        for (int job = 0; job < 3; job++) {
+            int clock = times[job] & 65535;
+            c.tell(x, READY, 0, -1, clock, RUN, 0, -1, clock, BLOCK, 0, -1, clock);
+            for (int k = 1; k <= 95 && job < 2; k++) {
+                int letter = 95 * job + k;
+                c.due("letter", x.mark(0, SEND + letter / 64, -1, letter % 64, times[job] + 65535 * k & 65535), letter + 2 + 3 * job);
+            }
+        }
+        return x;
     }
 
     private void periodOfOne() {
