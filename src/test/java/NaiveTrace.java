@@ -190,6 +190,17 @@ public final class NaiveTrace {
         return w.marks.get(p).size() >= 200 ? -4 : w.marks.get(p).size();
     }
 
+    /** Whether a WANT would make a ring of tasks that wait for one another. */
+    boolean closesRing(int p, int task, int lock) {
+        View v = view(w, p, w.marks.get(p).size() - 1);
+        Integer h = v.holders.get(lock);
+        for (int k = 0; k < 9 && h != null; k++) {
+            if (h == task) return true;
+            h = v.state(h).equals("WANTING") ? v.holders.get(v.wants.get(h)) : null;
+        }
+        return false;
+    }
+
     public int mark(int processor, int kind, int task, int x, int clock) {
         int answer = judge(processor, kind, task, x, clock);
         if (answer < 0) {

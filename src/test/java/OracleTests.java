@@ -18,6 +18,8 @@ public final class OracleTests {
     private final List<String> log = new ArrayList<>();
     private final int wildness;
     private final boolean lettersAgree;
+    private final boolean fullOfLocks;
+    private final int kindsOfClocks;
     private final int[] trueOffs = new int[3];
     private String fault = null;
 
@@ -26,6 +28,8 @@ public final class OracleTests {
         this.queries = queries;
         wildness = random.nextInt(10) == 0 ? 30 : 3;
         lettersAgree = random.nextInt(4) != 0;
+        fullOfLocks = random.nextInt(3) == 0;
+        kindsOfClocks = random.nextInt(6) == 0 ? 13 : 3;
         for (int p = 0; p < 3; p++) {
             trueOffs[p] = random.nextInt(60);
         }
@@ -58,7 +62,7 @@ public final class OracleTests {
     private void go() {
         try {
             if (random.nextInt(20) != 0) {
-                call("begin", 1 + random.nextInt(3), 1 + random.nextInt(random.nextBoolean() ? 3 : 8), 4 + random.nextInt(3));
+                call("begin", 1 + random.nextInt(fullOfLocks ? 2 : 3), drawTasks(), 4 + random.nextInt(kindsOfClocks));
                 settle();
             }
             int marks = random.nextInt(4) == 0 ? 230 : 20 + random.nextInt(100);
@@ -75,6 +79,10 @@ public final class OracleTests {
         } catch (ReflectiveOperationException e) {
             fault = e.toString();
         }
+    }
+
+    private int drawTasks() {
+        return fullOfLocks ? 4 + random.nextInt(5) : 1 + random.nextInt(random.nextBoolean() ? 3 : 8);
     }
 
     private void settle() throws ReflectiveOperationException {
@@ -105,6 +113,11 @@ public final class OracleTests {
         }
         taken.removeIf(m -> lettersAgree && !agrees(p, m[0], m[2], clock));
         taken.removeIf(m -> (m[0] == 8 && random.nextInt(8) != 0) || (m[0] >= 6 && m[0] != 8 && random.nextInt(3) != 0));
+        if (fullOfLocks) {
+            // else few locks are wanted, and those that are end in a ring that nothing leads out of
+            taken.removeIf(m -> (m[0] == 2 && random.nextBoolean()) || (m[0] >= 5 && random.nextInt(4) != 0));
+            taken.removeIf(m -> m[0] == 3 && naive.closesRing(p, m[1], m[2]) && random.nextInt(60) != 0);
+        }
         if (taken.isEmpty() || random.nextInt(25) == 0) {
             drawn(method("mark"));
             return;
@@ -215,8 +228,14 @@ public final class OracleTests {
                 return random.nextInt(4);
             case "law2":
                 return random.nextInt(3) != 0 ? 0 : random.nextInt(4);
+            case "sum1": case "differ2":
+                return random.nextInt(7);
+            case "busy1": case "job2": case "wait1":
+                return random.nextInt(6);
+            case "held1":
+                return random.nextInt(8);
             case "begin2":
-                return 4 + random.nextInt(3);
+                return 4 + random.nextInt(kindsOfClocks);
             case "told1":
                 return random.nextInt(1 + naive.w.size());
             case "count0":
